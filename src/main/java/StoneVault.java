@@ -1079,6 +1079,9 @@ public final class StoneVault {
         static final int CLAUSES = 12;
         private static final int OPEN = 6;
         private static final int DIGITS = 6;
+        private static final int MOST_KEPT = 1000;
+        private static final int MOST_DAYS = 999999;
+        private static final int MOST_RULES = 19;
         private static final int END = -1;
         private static final String LETTERS = "fhkwmlasd";
 
@@ -1195,13 +1198,13 @@ public final class StoneVault {
             }
             at++;
             if (letter == 'x') {
-                first = readTold(19);
+                first = readTold(MOST_RULES);
                 require('.');
                 second = readTold(CLAUSES - 1);
                 return false;
             }
             if (letter != 'b') {
-                first = readTold(letter == 't' ? 1000 : Integer.MAX_VALUE);
+                first = readTold(letter == 't' ? MOST_KEPT : MOST_DAYS);
             }
             require('(');
             boolean holds = readAny(1, asked);

@@ -64,12 +64,30 @@ public final class AccountsTest {
             Expect.due(32, "beyond an int", x.sum(3, what), other);
             Expect.due(32, "all kinds", x.sum(-1, what), want[what] + other);
         }
+        lastCabinet();
         Expect.due(32, "what 8", x.sum(2, 8), -1);
         Expect.due(32, "what -1", x.sum(2, -1), -1);
         Expect.due(32, "kind 8", x.sum(8, 0), -1);
         Expect.due(32, "kind -2", x.sum(-2, 0), -1);
         Expect.due(32, "all that came is somewhere", x.sum(2, 0),
                 x.sum(2, 1) + x.sum(2, 2) + x.sum(2, 3) + x.sum(2, 4) + x.sum(2, 5) + x.sum(2, 6));
+    }
+
+    private static void lastCabinet() {
+        StoneVault x = new StoneVault();
+        x.asker(0, 0);
+        x.stone(4, 0, 10, 9, false);
+        Expect.due(32, "in the last cabinet", x.sum(4, 1), 10);
+        Expect.due(32, "in the last cabinet, has met nothing", x.sum(4, 7), 10);
+        x.stone(4, 0, 20, 9, false);
+        x.stone(4, 0, 40, 9, false);
+        x.trial(1, 0, 1);
+        x.trial(2, 0, 1);
+        Expect.due(32, "has met something", x.sum(4, 7), 10);
+        x.lend(1, 0);
+        x.give(2, 0, 0);
+        Expect.due(32, "lent, has met something", x.sum(4, 2), 20);
+        Expect.due(32, "given, has met something", x.sum(4, 3), 40);
     }
 
     private static void counts() {

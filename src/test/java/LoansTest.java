@@ -233,7 +233,7 @@ public final class LoansTest {
         x.asker(3, 5);
         x.asker(4, 6);
         x.stone(2, 0, 1000, 0, false);
-        x.stone(2, 0, 300, 1, true);
+        x.stone(2, 0, 300, 9, true);
         x.stone(1, 0, 7, 0, false);
         x.stone(2, 0, 20, 0, false);
         x.stone(2, 0, 50, 0, false);
@@ -373,6 +373,16 @@ public final class LoansTest {
         Expect.due(12, "a b before it", x.lend(2, 0), -2);
         Expect.rules(x, "x1.0;t300(1=1);t1000(1=2)");
         Expect.due(12, "less is to be kept", x.lend(2, 0), 2);
+        StoneVault z = new StoneVault();
+        z.asker(0, 0);
+        z.stone(0, 0, 1001, 9, false);
+        z.stone(0, 0, 1999, 9, false);
+        z.stone(0, 0, 1000, 9, false);
+        z.trial(2, 0, 1);
+        Expect.rules(z, "t500(1=1)");
+        Expect.due(12, "a little too little, what has met something is not kept", z.lend(0, 0), -3);
+        Expect.rules(z, "t499(1=1)");
+        Expect.due(12, "enough", z.lend(0, 0), 0);
         StoneVault y = withOneStone();
         Expect.rules(y, "t1(1=1)");
         Expect.due(12, "the only one", y.lend(0, 0), -3);

@@ -185,6 +185,13 @@ public final class PiecesTest {
         Expect.due(8, "lent", x.cut(2, 0, 2), -1);
         Expect.due(8, "not so many", x.cut(0, 0, 6), -1);
         Expect.due(8, "the tape stays", x.count(9), 20);
+        StoneVault y = new StoneVault();
+        y.stone(0, 0, 100, 0, false);
+        Expect.numbers(y, 1, 1, 1, 1, 1, 1, 1, 1, 1, 1);
+        Expect.due(8, "seven parts with as many numbers", y.cut(0, 0, 7), -1);
+        Expect.due(8, "six parts of ten numbers", y.cut(0, 3, 6), 1);
+        Expect.due(8, "the whole has met nothing", y.piece(0, 3), 0);
+        Expect.due(8, "the tape is empty", y.count(9), 0);
         Expect.due(8, "too heavy", x.cut(0, 0, 2), -2);
         Expect.due(8, "the tape is empty", x.count(9), 0);
         Expect.numbers(x, 50, 0);

@@ -93,6 +93,18 @@ public final class ScalesTest {
             Expect.due(19, "wrong numbers", x.found(1), -2);
             Expect.due(19, "the tape is empty", x.count(9), 0);
         }
+        int[][] wrongSecond = {{-1, 0, 8}, {100, -1, 8}, {100, 1001, 8}, {100, 0, 9}};
+        for (int[] second : wrongSecond) {
+            Expect.numbers(x, 0, 1, 100, 0, 8, second[0], second[1], second[2]);
+            Expect.due(19, "wrong numbers of the second thing", x.found(2), -2);
+        }
+        Expect.numbers(x, 0, 1, 2, 100, 0, 8, 100, 0, 8, 100);
+        Expect.due(19, "two numbers short", x.found(3), -1);
+        Expect.due(19, "two numbers more than wanted", x.found(2), 0);
+        Expect.numbers(x, 0, 0, 0, 8);
+        Expect.due(19, "read as 0", x.found(1), 0);
+        Expect.numbers(x, 0, 100, 0, 8);
+        Expect.due(19, "told again", x.found(1), 1);
         Expect.numbers(x, 1, 1, 100, 0, 8, 100, 0, 8);
         Expect.due(19, "one twice", x.found(2), -2);
         Expect.due(20, "-2 changes nothing", x.thing(0, 0), 0);

@@ -17,6 +17,7 @@ public final class TravelsTest {
         Expect.due(21, "one twice", x.way(3, 3, 1), false);
         Expect.due(21, "no days", x.way(0, 1, 0), false);
         Expect.due(21, "too many days", x.way(0, 1, 1001), false);
+        Expect.due(21, "the shortest", x.way(1, 2, 1), true);
         Expect.due(21, "the longest", x.way(0, 15, 1000), true);
         x.stone(0, 0, 1, 0, false);
         x.give(0, 0, 15);
@@ -47,6 +48,7 @@ public final class TravelsTest {
         x.now(8);
         Expect.due(22, "the first", x.give(0, 99, 15), 0);
         Expect.due(22, "given", x.piece(0, 4), 11);
+        Expect.due(22, "has met nothing", x.piece(0, 3), 0);
         Expect.due(22, "there that day", x.where(0, 8), 1 << 15);
         Expect.due(22, "given again", x.give(0, 99, 15), -1);
         StoneVault y = new StoneVault();
