@@ -160,7 +160,7 @@ public final class StoneVault {
     }
 
     public int rules(int from, int to, int n) {
-        if (!isDay(from) || !isDay(to) || !isWithin(n, 1, RuleBook.BYTES)) {
+        if (!isDay(from) || !isDay(to) || to < from || !isWithin(n, 1, RuleBook.BYTES)) {
             return NONE;
         }
         if (!book.hasRoom() || !tape.hasBytes(n)) {

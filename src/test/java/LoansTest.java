@@ -3,6 +3,7 @@ public final class LoansTest {
     public static void main(String[] args) {
         askers();
         rulesOrder();
+        daysOfForce();
         rightTexts();
         faultsOfPlace();
         faultsOfDigits();
@@ -55,6 +56,31 @@ public final class LoansTest {
         }
         Expect.due(11, "full", Expect.rules(x, "b(f=1)"), -1);
         Expect.due(11, "full, the tape stays", x.count(9), 20);
+    }
+
+    /** Both told DAYS are DAYS of FORCE, so that no RULES end before they begin. */
+    private static void daysOfForce() {
+        int[][] none = {{1, 0}, {72, 0}, {99999, 0}, {99999, 99998}, {50, 49}};
+        for (int[] days : none) {
+            StoneVault x = new StoneVault();
+            Expect.text(x, "b(f=1);b(f=)");
+            Expect.due(11, "from " + days[0] + " to " + days[1], x.rules(days[0], days[1], 6), -1);
+            Expect.due(11, "no such ones, before a FAULT", x.rules(days[0], days[1], 12), -1);
+            Expect.due(11, "no such ones, the tape stays", x.count(9), 20);
+            Expect.due(11, "no such ones, none made", x.count(3), 0);
+            Expect.due(11, "the next is the first", x.rules(days[1], days[0], 6), 0);
+        }
+        int[] alone = {0, 1, 50, 99999};
+        for (int day : alone) {
+            StoneVault x = new StoneVault();
+            x.asker(0, 0);
+            x.stone(0, 0, 5, 0, false);
+            Expect.due(11, "one day " + day, Expect.rules(x, day, day, "b(1=1)"), 0);
+            x.now(day);
+            Expect.due(12, "in FORCE on that DAY", x.lend(0, 0), -2);
+            x.now(day + 1);
+            Expect.due(12, "not behind it", x.lend(0, 0), day == 99999 ? -2 : 0);
+        }
     }
 
     private static String longText(int length) {
