@@ -237,6 +237,8 @@ public final class LoansTest {
             y.back(i, 1000, 0, 0, 0);
         }
         Expect.due(12, "full", y.lend(0, 0), -1);
+        Expect.due(12, "full, it stays in its CABINET", y.piece(0, 4), 0);
+        Expect.due(12, "full, no more", y.count(4), 100);
     }
 
     /** Whether the clause's C holds for the loan of piece 0 to asker 0: it is barred then. */

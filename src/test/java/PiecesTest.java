@@ -14,6 +14,7 @@ public final class PiecesTest {
         trials();
         pieces();
         past();
+        longPast();
         Expect.end();
     }
 
@@ -292,5 +293,32 @@ public final class PiecesTest {
         Expect.due(16, "day -1", x.was(0, -1, 2), -1);
         Expect.due(16, "no piece", x.was(1, 9, 2), -1);
         Expect.due(16, "no piece", x.was(-1, 9, 2), -1);
+    }
+
+    /** Nearly as many changes as 512 calls can make: none is forgotten. */
+    private static void longPast() {
+        StoneVault x = new StoneVault();
+        x.stone(0, 0, 1000000, 0, false);
+        int whole = 0;
+        for (int cuts = 0; cuts < 24; cuts++) {
+            int next = x.count(1);
+            x.feed(x.piece(whole, 2) - 5, 1, 1, 1, 1);
+            x.feed(1, 0, 0, 0, 0);
+            Expect.due(8, "first part", x.cut(whole, 0, 6), next);
+            whole = next;
+        }
+        for (int day = 0; day < 5; day++) {
+            x.now(day);
+            for (int moves = 0; moves < 72; moves++) {
+                x.move(2, moves % 10);
+            }
+            x.move(2, day + 3);
+        }
+        x.move(whole, 9);
+        for (int day = 0; day < 5; day++) {
+            Expect.due(16, "after many changes, day " + day, x.was(2, day, 4), day + 3);
+        }
+        Expect.due(16, "the last change", x.was(whole, 4, 4), 9);
+        Expect.due(16, "the last change, the day before", x.was(whole, 3, 4), 0);
     }
 }

@@ -4,6 +4,7 @@ public final class ScalesTest {
         weighs();
         drifts();
         foundOrder();
+        foundSeven();
         foundAnswers();
         Expect.end();
     }
@@ -114,6 +115,31 @@ public final class ScalesTest {
         Expect.due(20, "no answers: none", x.thing(0, 1), 0);
         Expect.due(20, "no answers: none", x.thing(1, 1), 0);
         Expect.due(20, "no third thing", x.thing(2, 1), -1);
+    }
+
+    private static void foundSeven() {
+        StoneVault x = new StoneVault();
+        int[] numbers = new int[28];
+        for (int p = 0; p < 7; p++) {
+            x.stone(0, 0, 5, 0, false);
+            numbers[p] = p;
+            numbers[7 + 3 * p] = 5;
+        }
+        Expect.numbers(x, numbers);
+        Expect.due(19, "seven, with all their numbers", x.found(7), -1);
+        Expect.due(19, "the tape stays", x.count(9), 120);
+        Expect.due(20, "nothing told", x.thing(0, 1), -1);
+        int[] six = new int[24];
+        for (int p = 0; p < 6; p++) {
+            six[p] = 6 - p;
+            six[6 + 3 * p] = 5;
+        }
+        x.check(0);
+        Expect.numbers(x, six);
+        Expect.due(19, "six alike: all orders", x.found(6), 720);
+        Expect.due(20, "each may be each", x.thing(5, 1), 6);
+        Expect.due(20, "from the lowest on", x.thing(5, 2), 1);
+        Expect.due(20, "to the greatest", x.thing(5, 7), 6);
     }
 
     private static void foundAnswers() {
