@@ -156,6 +156,7 @@ public final class AsksTest {
         Expect.due(29, "none served", x.judge(0, 24), 0);
         Expect.due(29, "no row", x.judge(0, 25), -1);
         Expect.due(29, "no row", x.judge(0, -1), -1);
+        Expect.due(29, "no kind, before a row that is not right", x.judge(8, 3), -1);
         x.trial(0, 0, 2);
         Expect.due(29, "question met", x.judge(0, 4), -2);
         Expect.due(29, "question met by none", x.judge(0, 20), 3);
@@ -191,6 +192,8 @@ public final class AsksTest {
         Expect.due(30, "of the question", x.next(0, 4, 1), 2);
         Expect.due(30, "of the question", x.next(0, 12, 1), 0);
         Expect.due(30, "of the question", x.next(0, 13, 1), -1);
+        x.stone(2, 0, 1000000000, 0, false);
+        Expect.due(30, "the greatest weight", x.next(2, 65535, 1000000000), 5);
         x.open(3);
         Expect.due(30, "opened", x.next(0, 0, 1), 3);
         x.give(3, 0, 0);

@@ -11,6 +11,7 @@ public final class LoansTest {
         faultsOfClauses();
         faultsOfDepth();
         lendRefusals();
+        lastDays();
         letters();
         reckoning();
         askedFromTheLeft();
@@ -56,6 +57,16 @@ public final class LoansTest {
         }
         Expect.due(11, "full", Expect.rules(x, "b(f=1)"), -1);
         Expect.due(11, "full, the tape stays", x.count(9), 20);
+        x.check(0);
+        Expect.due(11, "full, before a FAULT", Expect.rules(x, "b(f=)"), -1);
+        Expect.due(11, "full, before a FAULT, the tape stays", x.count(9), 20);
+        StoneVault y = new StoneVault();
+        Expect.text(y, longText(160) + "b(f=1)");
+        Expect.due(11, "161 bytes of a longer tape", y.rules(0, 99999, 161), -1);
+        Expect.due(11, "bytes below 0", y.rules(0, 99999, -1), -1);
+        Expect.due(11, "from behind the last DAY", y.rules(100000, 100000, 160), -1);
+        Expect.due(11, "the first 160 bytes of a longer tape", y.rules(0, 99999, 160), 0);
+        Expect.due(11, "the rest is gone too", y.count(9), 0);
     }
 
     /** Both told DAYS are DAYS of FORCE, so that no RULES end before they begin. */
@@ -239,6 +250,24 @@ public final class LoansTest {
         Expect.due(12, "full", y.lend(0, 0), -1);
         Expect.due(12, "full, it stays in its CABINET", y.piece(0, 4), 0);
         Expect.due(12, "full, no more", y.count(4), 100);
+        Expect.rules(y, "b(1=1)");
+        Expect.due(12, "full, before a b", y.lend(0, 0), -1);
+        StoneVault z = withOneStone();
+        z.trial(0, 1000, 0);
+        Expect.due(12, "done", z.lend(0, 0), -1);
+    }
+
+    private static void lastDays() {
+        int[][] edges = {{0, 30}, {99968, 99998}, {99969, 99999}, {99970, 99999}, {99999, 99999}};
+        for (int[] days : edges) {
+            StoneVault x = withOneStone();
+            x.now(days[0]);
+            x.lend(0, 0);
+            Expect.due(12, "the first DAY " + days[0], x.loan(0, 2), days[0]);
+            Expect.due(12, "the last DAY from " + days[0], x.loan(0, 3), days[1]);
+            x.now(99999);
+            Expect.due(14, "late on the last of all DAYS", x.loan(0, 6), days[1] < 99999 ? 1 : 0);
+        }
     }
 
     /** Whether the clause's C holds for the loan of piece 0 to asker 0: it is barred then. */
@@ -304,6 +333,17 @@ public final class LoansTest {
         holds("999999*999999*999999%1000=999", true);
         holds("999999*999999*999999*999999<0", 999999L * 999999 * 999999 * 999999 < 0);
         holds("999999*999999*999999*999999%1000=0-" + -(999999L * 999999 * 999999 * 999999 % 1000), true);
+        String least = "512*512*512*512*512*512*512";
+        holds(least + "<0", true);
+        holds(least + "-1>0", true);
+        holds(least + "=[0-1]*" + least, true);
+        holds(least + "/[0-1]=" + least, true);
+        holds(least + "%[0-1]=0", true);
+        holds(least + "*2=0", true);
+        holds("1/[" + least + "*2]=0", false);
+        holds("!1/[" + least + "*2]=0", false);
+        holds("[0-1]/2=0", true);
+        holds("7%[0-4]=3", true);
         holds("1=2|3=3&4=4", true);
         holds("1=1|3=3&4=5", true);
         holds("(1=1|3=3)&4=5", false);

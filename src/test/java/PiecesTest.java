@@ -185,6 +185,9 @@ public final class PiecesTest {
         Expect.due(8, "sealed", x.cut(1, 0, 2), -1);
         Expect.due(8, "lent", x.cut(2, 0, 2), -1);
         Expect.due(8, "not so many", x.cut(0, 0, 6), -1);
+        x.trial(0, 0, 0);
+        Expect.due(8, "no piece, before wrong weights", x.cut(9, 0, 2), -1);
+        Expect.due(8, "sealed, before wrong weights", x.cut(1, 0, 3), -1);
         Expect.due(8, "the tape stays", x.count(9), 20);
         StoneVault y = new StoneVault();
         y.stone(0, 0, 100, 0, false);
@@ -195,6 +198,8 @@ public final class PiecesTest {
         Expect.due(8, "the tape is empty", y.count(9), 0);
         Expect.due(8, "too heavy", x.cut(0, 0, 2), -2);
         Expect.due(8, "the tape is empty", x.count(9), 0);
+        Expect.numbers(x, -2147483648, -2147483648);
+        Expect.due(8, "together below an int", x.cut(0, 0, 2), -2);
         Expect.numbers(x, 50, 0);
         Expect.due(8, "weight 0", x.cut(0, 0, 2), -2);
         Expect.numbers(x, 101, -1);
@@ -244,6 +249,14 @@ public final class PiecesTest {
         Expect.due(9, "done for good", x.trial(0, 0, 0), -1);
         Expect.due(9, "sum", x.sum(1, 5), 100);
         Expect.due(9, "moved no more", x.move(0, 1), false);
+        x.asker(0, 0);
+        x.stone(1, 0, 100, 0, false);
+        x.stone(1, 0, 100, 0, false);
+        x.lend(2, 0);
+        x.give(3, 0, 0);
+        Expect.due(9, "lent", x.trial(2, 1, 0), -1);
+        Expect.due(9, "given", x.trial(3, 1, 0), -1);
+        Expect.due(9, "refused ones eat nothing", x.sum(1, 5), 100);
     }
 
     private static void pieces() {

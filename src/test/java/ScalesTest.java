@@ -14,6 +14,7 @@ public final class ScalesTest {
         x.stone(0, 0, 100, 0, true);
         x.stone(0, 0, 100, 0, false);
         x.give(1, 0, 0);
+        Expect.due(17, "read below 0 as bits", x.weigh(0, 0, -2147483648, 0), false);
         Expect.due(17, "no piece", x.weigh(2, 0, 100, 0), false);
         Expect.due(17, "no piece", x.weigh(-1, 0, 100, 0), false);
         Expect.due(17, "no scale", x.weigh(0, 4, 100, 0), false);
@@ -66,6 +67,22 @@ public final class ScalesTest {
         Expect.due(18, "cut off at 1000", x.drifts(1, 2, 0), 6);
         x.weigh(0, 2, 1501, 0);
         Expect.due(18, "beyond 1000", x.drifts(2, 2, 0), 0);
+        StoneVault y = new StoneVault();
+        y.stone(0, 0, 1500, 0, false);
+        y.weigh(0, 0, 500, 0);
+        Expect.due(18, "just -1000", y.drifts(0, 0, 1), -1000);
+        Expect.due(18, "just -1000", y.drifts(0, 0, 2), -1000);
+        Expect.due(18, "just -1000", y.drifts(0, 0, 0), 1);
+        y.weigh(0, 1, 499, 0);
+        Expect.due(18, "below -1000", y.drifts(1, 0, 0), 0);
+        Expect.due(18, "below -1000", y.drifts(1, 0, 2), -2000);
+        y.weigh(0, 2, 2500, 0);
+        Expect.due(18, "just 1000", y.drifts(2, 0, 1), 1000);
+        y.weigh(0, 3, 499, 1);
+        Expect.due(18, "cut off at -1000", y.drifts(3, 0, 0), 1);
+        y.stone(0, 0, 1000000000, 0, true);
+        y.weigh(1, 3, 0, 1000);
+        Expect.due(18, "read as nothing", y.drifts(3, 0, 0), 0);
     }
 
     private static void foundOrder() {
@@ -111,6 +128,10 @@ public final class ScalesTest {
         Expect.due(20, "-2 changes nothing", x.thing(0, 0), 0);
         Expect.numbers(x, 2, 1, 100, 0, 8, 1000001000, 1000, 8);
         Expect.due(19, "lent and given, but too heavy", x.found(2), 0);
+        Expect.numbers(x, 2, 1, 100, 0, 8, 100, 0, 1);
+        Expect.due(19, "lent and given", x.found(2), 2);
+        Expect.numbers(x, 2, 1, 100, 0, 8, 1000001000, 1000, 8);
+        Expect.due(19, "none left for the second", x.found(2), 0);
         Expect.due(20, "no answers: not sure", x.thing(0, 0), -1);
         Expect.due(20, "no answers: none", x.thing(0, 1), 0);
         Expect.due(20, "no answers: none", x.thing(1, 1), 0);
