@@ -5,7 +5,31 @@ public final class TravelsTest {
         gifts();
         sights();
         wheres();
+        allPlaces();
         Expect.end();
+    }
+
+    /** From PLACE 5 through all others, each by the longest WAY that there is. */
+    private static void allPlaces() {
+        StoneVault x = new StoneVault();
+        x.stone(0, 0, 10, 0, false);
+        x.now(7);
+        x.give(0, 0, 5);
+        for (int i = 1; i < 16; i++) {
+            x.way((5 * i) % 16, (5 * i + 5) % 16, 1000);
+        }
+        x.now(99999);
+        int bits = 0;
+        for (int i = 0; i < 16; i++) {
+            bits |= 1 << (5 * i + 5) % 16;
+            Expect.due(24, "after " + i + " WAYS", x.where(0, 7 + 1000 * i), bits);
+            Expect.due(24, "a DAY before the next", x.where(0, 7 + 1000 * i + 999), bits);
+        }
+        Expect.due(24, "all PLACES", x.where(0, 99999), 65535);
+        x.sight(0, 0, 99999);
+        Expect.due(24, "back from all PLACES", x.where(0, 99999 - 15000), 65535);
+        Expect.due(24, "too late for the farthest one", x.where(0, 99999 - 14999), 65535 & ~(1 << 5));
+        Expect.due(24, "a DAY before it", x.where(0, 99998), 1);
     }
 
     private static void ways() {

@@ -21,7 +21,29 @@ public final class WildCallsTest {
                 Expect.due(32, "all that came is somewhere", somewhere, x.sum(kind, 0));
             }
         }
+        longUse();
         Expect.end();
+    }
+
+    /** Far behind the 512 calls its answers are free, but none throws. */
+    private static void longUse() {
+        StoneVault x = new StoneVault();
+        x.asker(0, 0);
+        x.stone(0, 0, 1000000, 0, false);
+        for (int i = 0; i < 3000; i++) {
+            x.now(i / 9);
+            x.move(0, i % 10);
+            x.stone(0, 0, 1, 0, false);
+            x.trial(0, 1, 1);
+            x.lend(0, 0);
+            x.back(i, 1000000 - i, 0, 0, 0);
+            x.weigh(0, 0, 1, 1);
+            x.give(i, 0, 0);
+            x.sight(0, 0, x.count(0));
+            x.was(0, i, 2);
+            x.feed(1, 1, 1, 1, 1);
+            Expect.due(1, "NOW goes on", x.count(0), i / 9);
+        }
     }
 
     private static int any(int wildness, int usual) {
