@@ -30,15 +30,16 @@ public final class WildCallsTest {
         StoneVault x = new StoneVault();
         x.asker(0, 0);
         x.stone(0, 0, 1000000, 0, false);
+        x.stone(0, 0, 1000000, 0, false);
         for (int i = 0; i < 3000; i++) {
             x.now(i / 9);
-            x.move(0, i % 10);
+            x.move(1, i % 10);
             x.stone(0, 0, 1, 0, false);
             x.trial(0, 1, 1);
             x.lend(0, 0);
-            x.back(i, 1000000 - i, 0, 0, 0);
+            x.back(i, x.piece(0, 2), 0, 0, 0);
             x.weigh(0, 0, 1, 1);
-            x.give(i, 0, 0);
+            x.give(i + 2, 0, 0);
             x.sight(0, 0, x.count(0));
             x.was(0, i, 2);
             x.feed(1, 1, 1, 1, 1);
