@@ -1051,7 +1051,8 @@ public final class StoneVault {
                 if ((struck[rules] >> j & 1) != 0) {
                     continue;
                 }
-                boolean holds = reader.asksClause(starts[rules * CLAUSES + j]);
+                reader.goTo(starts[rules * CLAUSES + j]);
+                boolean holds = reader.readClause(true);
                 switch (reader.letter()) {
                     case 'x': strike(rules, day); break;
                     case 'b': barred = barred || holds; break;
@@ -1183,13 +1184,12 @@ public final class StoneVault {
             return second;
         }
 
-        boolean asksClause(int start) {
-            at = start;
-            boolean holds = readClause(true);
-            return holds && !refused;
+        void goTo(int place) {
+            at = place;
         }
 
-        private boolean readClause(boolean asked) {
+        /** Whether it holds, if that is asked. */
+        boolean readClause(boolean asked) {
             refused = false;
             letter = sign();
             if (!isClauseLetter(letter)) {
@@ -1209,7 +1209,7 @@ public final class StoneVault {
             require('(');
             boolean holds = readAny(1, asked);
             require(')');
-            return holds;
+            return holds && !refused;
         }
 
         private static boolean isClauseLetter(int sign) {
@@ -1238,7 +1238,9 @@ public final class StoneVault {
         private boolean readSingle(int open, boolean asked) {
             int sign = sign();
             if (sign != '!' && sign != '(') {
-                return readComparison(open, asked);
+                long left = readSum(open, asked);
+                int order = readOrder();
+                return areSo(left, order, readSum(open, asked));
             }
             if (open >= OPEN) {
                 fail(5, at);
@@ -1253,19 +1255,21 @@ public final class StoneVault {
             return holds;
         }
 
-        private boolean readComparison(int open, boolean asked) {
-            long left = readSum(open, asked);
-            int sign = sign();
-            if (sign != '<' && sign != '>' && sign != '=') {
+        private int readOrder() {
+            int order = sign();
+            if (order == '<' || order == '>' || order == '=') {
+                at++;
+            } else {
                 fail(1, at);
-                return false;
             }
-            at++;
-            long right = readSum(open, asked);
-            if (sign == '<') {
+            return order;
+        }
+
+        private static boolean areSo(long left, int order, long right) {
+            if (order == '<') {
                 return left < right;
             }
-            return sign == '>' ? left > right : left == right;
+            return order == '>' ? left > right : left == right;
         }
 
         private long readSum(int open, boolean asked) {
@@ -1363,7 +1367,9 @@ public final class StoneVault {
         }
 
         private void require(char wanted) {
-            if (!take(wanted)) {
+            if (sign() == wanted) {
+                at++;
+            } else {
                 fail(1, at);
             }
         }
