@@ -352,6 +352,8 @@ public final class LoansTest {
     private static void askedFromTheLeft() {
         holds("1/0=0", false);
         holds("!1/0=0", false);
+        holds("!1=0/0", false);
+        holds("!0>f-[7%[f-5]]", false);
         holds("!(1%0=0)", false);
         holds("1=1|1/0=0", true);
         holds("1/0=0|1=1", false);
